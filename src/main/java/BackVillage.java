@@ -556,10 +556,6 @@ public final class BackVillage {
             grow(many);
             System.arraycopy(other.cells, 0, cells, 0, many);
         }
-
-        int[] first(int length) {
-            return Arrays.copyOf(cells, Math.max(0, Math.min(length, cells.length)));
-        }
     }
 
     /** The bytes that were fed and not used up yet. */
@@ -1559,7 +1555,10 @@ public final class BackVillage {
                     return days;
                 }
                 sayWhoIsSure(s, spare);
-                heed(s, spare);
+                if (!heed(s, spare)) {
+                    // a day that takes no world is as all days behind it
+                    return NONE;
+                }
             }
             return NONE;
         }
