@@ -66,6 +66,8 @@ public final class ActsTest {
         v.turn(1, 2);
         C.due("who turned", v.apart(1, 0, 1), true);
         C.due("who turned, of the same notice", v.apart(1, 0, 6), false);
+        C.due("by whom 1 sees, not 0", v.apart(1, 0, 2), false);
+        C.due("by whom 0 sees, not 1", v.apart(0, 0, 2), true);
         C.dueThrow("one is left no more", () -> v.apart(0, 7, 1), STATE);
         C.dueThrow("the other is left no more", () -> v.apart(0, 1, 7), STATE);
         C.dueThrow("both one that is left no more", () -> v.apart(0, 7, 7), STATE);
@@ -82,6 +84,8 @@ public final class ActsTest {
         C.due("the other one", v.sure(1, 1), true);
         C.dueThrow("left no more", () -> v.sure(0, 0), STATE);
         C.dueThrow("no such world", () -> v.sure(0, 4), BOUNDS);
+        C.due("1 is not sure where 0 is", v.sure(1, 2), false);
+        C.due("0 is not sure where 1 is", v.sure(0, 1), false);
         C.dueThrow("no such person", () -> v.sure(2, 0), BOUNDS);
         C.dueThrow("no such person, below", () -> v.sure(-1, 9), BOUNDS);
     }
@@ -96,6 +100,8 @@ public final class ActsTest {
         C.dueThrow("not seen", () -> v.manner(1, 0, 3), STATE);
         C.dueThrow("oneself", () -> v.manner(1, 1, 0), ARGUMENT);
         C.dueThrow("oneself, no such world", () -> v.manner(1, 1, 4), BOUNDS);
+        C.dueThrow("no such one", () -> v.manner(2, 1, 3), BOUNDS);
+        C.dueThrow("no such one, below", () -> v.manner(-1, 1, 3), BOUNDS);
         C.dueThrow("no such person", () -> v.manner(2, 2, 0), BOUNDS);
         C.dueThrow("no such other one", () -> v.manner(0, -1, 0), BOUNDS);
         v.turn(1, 1);
@@ -126,6 +132,8 @@ public final class ActsTest {
         C.dueThrow("not seen", () -> v.treat(2, 0, false), STATE);
         C.dueThrow("no such person", () -> v.treat(3, 3, false), BOUNDS);
         C.dueThrow("no such other one", () -> v.treat(0, 3, true), BOUNDS);
+        C.dueThrow("no such one", () -> v.treat(3, 0, true), BOUNDS);
+        C.dueThrow("no such one, below", () -> v.treat(-1, 0, true), BOUNDS);
         BackVillage later = Check.of(PAIR);
         Check.rule(later, "act 1 if theirs > 0");
         later.treat(1, 0, false);
@@ -182,6 +190,10 @@ public final class ActsTest {
         C.due("1 is sure", v.ask(1), true);
         C.due("two are left still", v.count(6), 2);
         C.due("the day is the same", v.count(4), 0);
+        BackVillage second = Check.of("person 1;person 0;sees 1 0");
+        second.turn(1, 1);
+        C.due("the second is sure", second.ask(1), true);
+        C.due("the first is not", second.ask(0), false);
         C.dueThrow("no such person", () -> v.ask(2), BOUNDS);
         C.dueThrow("below", () -> v.ask(-1), BOUNDS);
     }

@@ -66,6 +66,9 @@ public final class KnowTest {
         C.due("behind asking", m.thinks(1, 0, 0), true);
         C.due("and the other one", m.thinks(0, 1, 1), true);
         C.dueThrow("no such person", () -> v.thinks(3, 0, 0), BOUNDS);
+        BackVillage few = Check.of("person 1;person 0;sees 0 1;sees 1 0;most 1 have 1");
+        C.due("1 knows its own by 0's", few.knows(1, 1), 0);
+        C.due("but 0 holds 00, where 1 does not", few.thinks(0, 1, 1), false);
         C.dueThrow("no such other one", () -> v.thinks(0, 3, 0), BOUNDS);
         C.dueThrow("no such whose", () -> v.thinks(0, 0, 3), BOUNDS);
     }
@@ -94,6 +97,8 @@ public final class KnowTest {
         C.due("by nobody's sight", told.common(0), -1);
         told.read(1);
         C.due("by the other one", told.common(0), 0);
+        // 01, to 00 by 1, and only from there to 10 by 0
+        C.due("three steps", Check.of("person 0;person 1;sees 1 0;sees 0 1;most 1 have 1").common(0), -1);
         C.dueThrow("no such person", () -> v.common(3), BOUNDS);
         C.dueThrow("below", () -> v.common(-1), BOUNDS);
     }
@@ -178,6 +183,10 @@ public final class KnowTest {
         C.due("who is sure", v.guess(0), 0);
         BackVillage w = Check.of("values 4;person 2;person 3;least 1 have 3");
         C.due("3 in four of seven", w.guess(0), 3);
+        C.due("3 in four of seven, of 1", w.guess(1), 3);
+        w.turn(1, 1);
+        w.turn(0, 1);
+        C.due("all alike by seeing a 3", w.guess(0), 0);
         C.dueThrow("no such person", () -> w.guess(2), BOUNDS);
         C.dueThrow("none", () -> w.guess(-1), BOUNDS);
     }
@@ -206,6 +215,8 @@ public final class KnowTest {
         v.turn(1, 2);
         C.due("of several the least", v.widest(), 0);
         C.due("of nobody", new BackVillage().widest(), -1);
+        BackVillage one = Check.of("person 1;least 1 have 1");
+        C.due("who holds one world", one.widest(), 0);
     }
 
     private static void under() {

@@ -13,6 +13,9 @@ public final class LogTest {
         undoMany();
         undoForgotten();
         image();
+        imageOfRows();
+        imageOfNobody();
+        undoEach();
         imageForgets();
         count();
         C.finish();
@@ -261,6 +264,80 @@ public final class LogTest {
         C.due("who know nothing", early.person(1, 4), 4);
     }
 
+    /** All rows come back, also if they were written over since. */
+    private static void imageOfRows() {
+        BackVillage v = Check.of("person 1;person 0;sees 0 1");
+        for (int i = 0; i < 60; i++) {
+            v.query(i % 2, i / 2 % 2, i / 4 % 2);
+        }
+        int[] came = new int[60];
+        for (int i = 0; i < 60; i++) {
+            came[i] = v.log(i, 1) * 100 + v.log(i, 2) * 10 + v.log(i, 3);
+        }
+        v.image();
+        for (int i = 0; i < 60; i++) {
+            v.day();
+        }
+        v.back();
+        for (int i = 0; i < 60; i++) {
+            C.due("row " + i + " of the image", v.log(i, 0), 7);
+            C.due("what it tells", v.log(i, 1) * 100 + v.log(i, 2) * 10 + v.log(i, 3), came[i]);
+        }
+    }
+
+    /** What was told behind an image of nobody leaves nothing to those who come behind going back. */
+    private static void imageOfNobody() {
+        BackVillage v = new BackVillage();
+        v.image();
+        for (int i = 0; i < 3; i++) {
+            Check.tell(v, "person 1;person 0;sees 0 1;sees 1 0");
+            v.turn(0, 0);
+            v.turn(1, 1);
+            v.back();
+            Check.tell(v, "");
+            Check.tell(v, "person 0;person 1");
+            C.due("0 sees nobody", v.person(0, 1), 0);
+            C.due("1 sees nobody", v.person(1, 1), 0);
+            C.due("0 holds all", v.person(0, 4), 4);
+            C.due("1 holds all", v.person(1, 4), 4);
+            C.due("no rows", v.count(9), 0);
+            v.back();
+        }
+    }
+
+    /** Each kind of act is one that can be undone. */
+    private static void undoEach() {
+        BackVillage v = Check.of("person 1;person 0;sees 0 1;sees 1 0");
+        Check.rule(v, "act 1 if theirs > 0");
+        v.treat(1, 0, true);
+        each(v, "treat");
+        v.turn(0, 0);
+        each(v, "turn");
+        v.ask(0);
+        each(v, "ask");
+        v.day();
+        each(v, "day");
+        v.read(1);
+        each(v, "read");
+        v.claim(1, 1);
+        each(v, "claim");
+        v.query(0, 1, 0);
+        each(v, "query");
+        v.stroll(30);
+        each(v, "stroll");
+    }
+
+    private static void each(BackVillage v, String what) {
+        C.due("one act: " + what, v.count(10), 1);
+        C.due("undone: " + what, v.undo(), true);
+        C.due("worlds left ahead of " + what, v.count(6), 4);
+        C.due("nobody is sure ahead of " + what, v.count(8), 0);
+        C.due("no row ahead of " + what, v.count(9), 0);
+        C.due("no day ahead of " + what, v.count(4), 0);
+        C.due("whom 0 sees ahead of " + what, v.person(0, 1), 2);
+        C.due("the seed ahead of " + what, v.seed(1), 1);
+    }
+
     private static void imageForgets() {
         BackVillage v = Check.of("person 1;person 0");
         C.due("none kept", v.back(), false);
@@ -271,6 +348,12 @@ public final class LogTest {
         v.back();
         C.due("the image knows the day", v.count(4), 1);
         C.due("but not the act", v.count(10), 0);
+        v.day();
+        v.day();
+        v.back();
+        C.due("acts behind the image are forgotten", v.count(10), 0);
+        C.due("nothing to undo", v.undo(), false);
+        C.due("as in the image", v.count(4), 1);
     }
 
     private static void count() {

@@ -37,6 +37,9 @@ public final class PuzzleTest {
         C.due("of 0 by 3 alone", x.backs(0), 8);
         C.due("of 3 by all others", x.backs(3), 7);
         C.due("of 2 by 3 alone", x.backs(2), 8);
+        BackVillage few = Check.of("person 1;person 1;person 0;person 0;alike 2 3;most 3 have 1");
+        C.due("one, though two others are less as bits", few.backs(3), 4);
+        C.due("of two", few.backs(0), -2);
         C.dueThrow("no such person", () -> v.backs(4), BOUNDS);
         C.dueThrow("below", () -> v.backs(-1), BOUNDS);
     }
@@ -71,6 +74,16 @@ public final class PuzzleTest {
         C.due("2 never does", v.never(0), 4);
         C.due("of whom 0 sees", v.never(1), 0);
         C.due("whom nobody sees", v.never(2), 0);
+        BackVillage least = Check.of("values 3;person 1;person 0;sees 1 0");
+        least.read(1);
+        Check.rule(least, "act 1 if theirs < 1");
+        C.due("it does in the world of 0 alone", least.never(0), 0);
+        BackVillage last = Check.of("person 0;person 0;sees 0 1");
+        Check.rule(last, "act 1 if theirs > 0");
+        C.due("the first gives away the last", last.gives(1), 1);
+        C.due("the first does at times", last.never(1), 0);
+        Check.rule(last, "act 1");
+        C.due("the first never does", last.never(1), 1);
         v.turn(0, 0);
         C.due("one who is always sure", v.never(0), 6);
         C.due("oneself is not told", v.never(0) & 1, 0);
@@ -203,7 +216,7 @@ public final class PuzzleTest {
     }
 
     private static void span() {
-        for (int n = 0; n <= 30; n += 3) {
+        for (int n = 0; n <= 30; n++) {
             BackVillage v = strollers();
             int fewest = 9;
             int most = 0;

@@ -186,6 +186,15 @@ public final class TextTest {
         fault("a word of the law", " act 1", 1);
         fault("a word within a line", "have 1", 0);
         fault("a word that goes on", "valuess 2", 0);
+        fault("a word with another first letter", "xalues 2", 0);
+        fault("a word with another last letter", "valuet 2", 0);
+        fault("a word that goes on with z", "personz 1", 0);
+        fault("a word that goes on with a", "persona 1", 0);
+        fault("half a word", "perso 1", 0);
+        fault("a word with a sign behind", "person{ 1", 6);
+        fault("a word with a sign ahead", "`person 1", 0);
+        fault("a number with a : behind", "person 1:", 8);
+        fault("a number with a / behind", "person 1/", 8);
         fault("an upper letter", "Values 2", 0);
         fault("a tab", "values\t2", 6);
         fault("a byte of 0", "values 2\u0000", 8);
@@ -218,6 +227,7 @@ public final class TextTest {
         fault("most have with a word behind", TWO + ";most 1 haven 1", 25);
         fault("a name behind a line", TWO + ";most 1 have 1 x", 32);
         fault("numbers in one", TWO + ";sees 01", 25);
+        fault("two faults: the first", "person 0;person 7;values 9", 16);
     }
 
     /** A line that is not so in THE WORLD is wrong at its first word, but only if all of it can stand there. */
