@@ -231,6 +231,11 @@ public final class PuzzleTest {
             C.due("most by " + n, v.span(n, true), most);
             C.due("seed behind span", v.seed(99), 99);
         }
+        BackVillage pair = Check.of("person 1;person 0;sees 0 1;sees 1 0");
+        Check.rule(pair, "act 1 if theirs > 0");
+        // draws modulo 2: of seed 1 only the fourth pair is of two people, of all others one of the first two
+        C.due("fewest by 3", pair.span(3, false), 0);
+        C.due("most by 1", pair.span(1, true), 1);
         BackVillage v = strollers();
         C.due("none of 0", v.span(0, true), 0);
         v.turn(1, 1);
