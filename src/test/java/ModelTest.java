@@ -3,6 +3,8 @@ import java.util.Random;
 /** Long runs of calls, drawn from told seeds, on the class and on the model of the document. */
 public final class ModelTest {
     private static final Check CHECK = new Check("ModelTest");
+    private static final int[] FAR = {Integer.MIN_VALUE, Integer.MAX_VALUE, -1, -2, 9, 10, 31, 32, 60, 511, 512, 4608,
+        1 << 30, -(1 << 30)};
     private static int wrongRuns;
 
     private final Random random;
@@ -384,6 +386,13 @@ public final class ModelTest {
     private void call(String name, int a, int b, int c) {
         if (bad) {
             return;
+        }
+        if (draw(60) == 0 && !name.equals("end")) {
+            int far = FAR[draw(FAR.length)];
+            int which = draw(3);
+            a = which == 0 ? far : a;
+            b = which == 1 ? far : b;
+            c = which == 2 ? far : c;
         }
         String what = name + "(" + a + ", " + b + ", " + c + ")";
         String want;
