@@ -38,6 +38,7 @@ public final class EdgeAskTest {
         trialBounds();
         trialFromNow();
         spanBounds();
+        spanSeeds();
         nthBounds();
         guessLeast();
         rightAll();
@@ -321,6 +322,13 @@ public final class EdgeAskTest {
         C.due("2, if one was READ OUT", four.queries(3), 2);
         C.due("nothing was QUERIED", four.count(9), 4);
         C.due("none of one alone", Check.of("person 1").queries(0), -1);
+        // 2 is asked of 0, does not KNOW, and so rules out 100: then 0 KNOWS of 2 just where 1 has a 0
+        BackVillage whose = Check.of("person 1;person 0;person 1;most 2 have 0;sees 0 1;sees 2 1");
+        whose.turn(2, 2);
+        C.due("2, the first of which must be of PERSON 0", whose.queries(1), 2);
+        BackVillage least = Check.of("values 3;person 0;person 2;person 0;sees 1 0;most 2 have 0");
+        least.turn(2, 2);
+        C.due("2, the first of which must be of NOTICE 0", least.queries(0), 2);
     }
 
     private static void queriesMany() {
@@ -463,6 +471,28 @@ public final class EdgeAskTest {
         for (int n = 1; n <= 30; n++) {
             spanBy(n);
         }
+    }
+
+    /** Of each SEED from 1 to 6 one case in which it alone has the fewest, and one in which it alone has the most. */
+    private static void spanSeeds() {
+        span("SEED 1", 5, 0, false, "person 1;person 1;sees 1 0");
+        span("SEED 1", 2, 1, true, "person 0;person 1;person 0;sees 0 1");
+        span("SEED 2", 4, 0, false, "person 0;person 1;person 0;sees 2 0;sees 2 1");
+        span("SEED 2", 2, 2, true, "person 1;person 1;sees 1 0;sees 0 1");
+        span("SEED 3", 4, 0, false, "person 0;person 0;sees 0 1");
+        span("SEED 3", 3, 2, true, "person 1;person 1;person 1;sees 0 2;sees 0 1");
+        span("SEED 4", 12, 0, false, "person 0;person 1;person 0;sees 0 1");
+        span("SEED 4", 1, 1, true, "person 1;person 1;sees 1 0");
+        span("SEED 5", 9, 0, false, "person 0;person 1;person 0;sees 1 2;sees 0 1");
+        span("SEED 5", 1, 1, true, "person 1;person 1;person 0;sees 1 0");
+        span("SEED 6", 10, 0, false, "person 1;person 1;person 0;sees 2 1");
+        span("SEED 6", 1, 1, true, "person 1;person 1;person 0;person 0;sees 2 3");
+    }
+
+    private static void span(String what, int n, int want, boolean most, String text) {
+        BackVillage v = Check.of(text);
+        Check.rule(v, "act 1 if theirs > 0");
+        C.due((most ? "the most" : "the fewest") + " by " + n + " from " + what + " alone", v.span(n, most), want);
     }
 
     private static void spanBy(int n) {
@@ -663,11 +693,24 @@ public final class EdgeAskTest {
         C.due("the most at once", gives.married(-1), 2);
         C.due("not the least, which would be one pair alone", gives.married(0), 2);
         C.due("1 with 3", gives.married(1), 3);
+        BackVillage first = Check.of("person 1;person 0;person 1;person 0;person 1;sees 0 1;sees 1 0;sees 0 3;sees 3 0");
+        Check.tell(first, "sees 2 3;sees 3 2;sees 2 4;sees 4 2");
+        C.due("two at once", first.married(-1), 2);
+        C.due("then 1, ..: 2 with the least that is not married yet", first.married(2), 3);
+        C.due("none for the last", first.married(4), -1);
+        BackVillage alone = Check.of("person 1;person 0;person 1;sees 1 2;sees 2 1");
+        rows(alone, "", -1);
+        C.due("one pair, without PERSON 0", alone.married(-1), 1);
+        C.due("none for PERSON 0", alone.married(0), -1);
+        C.due("1 with 2", alone.married(1), 2);
         BackVillage half = Check.of("person 1;person 0;sees 0 1");
+        rows(half, "", -1);
         C.due("each of whom KNOWS the other's", half.married(-1), 0);
         C.due("none of whom one KNOWS alone", half.married(0), -1);
-        C.due("of one alone", Check.of("person 1").married(-1), 0);
-        C.due("none of one alone", Check.of("person 1").married(0), -1);
+        BackVillage one = Check.of("person 1");
+        rows(one, "", -1);
+        C.due("of one alone", one.married(-1), 0);
+        C.due("none of one alone", one.married(0), -1);
         BackVillage nine = Check.of(NINE);
         for (int p = 0; p < 9; p++) {
             nine.read(p);

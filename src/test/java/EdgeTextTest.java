@@ -424,19 +424,29 @@ public final class EdgeTextTest {
             }
             wrong("a LINE must come behind ;: " + LINES[i], head + LINES[i] + ";", head.length() + LINES[i].length() + 1);
         }
-        String[] things = "act 1 if not ( theirs + 1 < who or seen ) and day > 2".split(" ");
+        mustCome("act 1 if not ( theirs + 1 < who or seen ) and day > 2", 2, 13, 17);
+        mustCome("act 1 if sure or seen and 1 < 2 ; act 2 if not not 1 + day > theirs or 2 > 1", 2, 4, 6, 10, 13, 21, 25);
+    }
+
+    /** Cuts a law behind each of its things; behind some, told by how many there are, it is whole. */
+    private static void mustCome(String law, int... wholes) {
+        String[] things = law.split(" ");
         StringBuilder cut = new StringBuilder();
+        int next = 0;
+        int lines = 1;
         for (int k = 0; k < things.length; k++) {
             cut.append(k > 0 ? " " : "").append(things[k]);
-            boolean whole = k == 1 || k == 12 || k + 1 == things.length;
-            if (whole) {
-                rightLaw("nothing must come: " + cut, cut.toString(), 1);
+            lines += things[k].equals(";") ? 1 : 0;
+            if (next < wholes.length && wholes[next] == k + 1) {
+                next++;
+                rightLaw("nothing must come: " + cut, cut.toString(), lines);
             } else {
                 wrongLaw("more must come: the text's length: " + cut, cut.toString(), cut.length());
                 wrongLaw("more must come behind a blank: " + cut, cut + " ", cut.length() + 1);
                 wrongLaw("more must come, not a LINE: " + cut, cut + ";act 1", cut.length());
             }
         }
+        C.due("all whole ones were cut", next, wholes.length);
     }
 
     private static void cannotStand() {

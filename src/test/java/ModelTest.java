@@ -18,7 +18,7 @@ public final class ModelTest {
     }
 
     public static void main(String[] args) {
-        int many = args.length > 0 ? Integer.parseInt(args[0]) : 500;
+        int many = args.length > 0 ? Integer.parseInt(args[0]) : 2000;
         int first = args.length > 1 ? Integer.parseInt(args[1]) : 1;
         for (int i = first; i < first + many && wrongRuns < 5; i++) {
             new ModelTest(i).run(i % 50 == 0);
