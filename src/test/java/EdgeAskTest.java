@@ -568,6 +568,15 @@ public final class EdgeAskTest {
         BackVillage nine = Check.of(NINE);
         C.due("RIGHT of 512", nine.right(8), 256);
         C.due("ALL RIGHT of 512", nine.right(-1), 1);
+        BackVillage misled = Check.of("values 3;person 0;person 0;person 0;sees 0 1;sees 1 2");
+        Check.rule(misled, "act 1 if sure;act 1 if theirs > 0");
+        misled.treat(0, 1, false);
+        misled.treat(1, 2, false);
+        // 1 by sureness or by sight of a 1 or a 2: of 15 WORLDS that 2 HOLDS, 3 have a 0, 6 a 1, 6 a 2
+        C.due("a GUESS that is not right in THE WORLD", misled.guess(2), 1);
+        C.due("RIGHT, but not in the WORLD of CODE 0", misled.right(2), 15);
+        C.due("RIGHT of whom it was told by", misled.right(1), 18);
+        C.due("ALL RIGHT, but not in the WORLD of CODE 0", misled.right(-1), 3);
     }
 
     // ---- rows, liars, marriages
