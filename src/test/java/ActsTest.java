@@ -16,6 +16,7 @@ public final class ActsTest {
         manner();
         treat();
         treatBySure();
+        treatByEightManners();
         turn();
         ask();
         day();
@@ -164,6 +165,24 @@ public final class ActsTest {
         C.due("manner in 10", w.manner(0, 1, 2), 2);
         C.due("before all", w.treat(0, 1, true), 0);
         C.due("0 learns nothing of oneself", w.count(8), 2);
+    }
+
+    /** 4 notices of another one, by a SURE one or not, are 8 manners, told apart beside what one sees. */
+    private static void treatByEightManners() {
+        BackVillage v = Check.of("values 4;person 0;person 2;person 1;sees 0 1;sees 1 2;sees 2 0");
+        Check.rule(v, "act 1 if theirs > 2");
+        C.due("0 learns whether it has a 3", v.treat(2, 0, false), 0);
+        Check.rule(v, "act 1 if theirs > 0;act 1 if theirs > 1;act 1 if theirs > 2;act 4 if sure");
+        C.due("2, not by a sure one", v.treat(0, 1, false), 2);
+        for (int w = 0; w < 64; w++) {
+            for (int x = 0; x < 64; x++) {
+                boolean sight = w % 4 != x % 4;
+                boolean manner = w / 4 % 4 != x / 4 % 4 || (w / 16 == 3) != (x / 16 == 3);
+                C.due("apart for 1: " + w + " and " + x, v.apart(1, w, x), sight || manner);
+            }
+        }
+        C.due("1 is sure now", v.count(8), 2);
+        C.due("1 holds the worlds in which 0 has no 3", v.person(1, 4), 3);
     }
 
     private static void turn() {
