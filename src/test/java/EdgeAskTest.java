@@ -23,6 +23,7 @@ public final class EdgeAskTest {
         thinksInAll();
         commonBySteps();
         muddyDays();
+        muddyForty();
         backsFewest();
         givesOthers();
         neverOneself();
@@ -211,6 +212,53 @@ public final class EdgeAskTest {
         C.due("somebody now", later.muddy(-1), 0);
         C.due("a told one behind 1", later.muddy(1), 1);
         C.due("nothing happens by asking", later.count(4), 0);
+    }
+
+    /** Told apart so finely by six manners that 0 and 1 rule out but few of the 256 WORLDS a DAY. */
+    private static BackVillage slow(int world) {
+        BackVillage v = Check.of("values 4;person " + world / 64 + ";person " + world / 16 % 4 + ";person "
+            + world / 4 % 4 + ";person " + world % 4 + ";sees 0 1;sees 0 3;sees 1 0;sees 1 2;sees 2 0;sees 2 1;"
+            + "sees 2 3;sees 3 0;sees 3 1");
+        Check.tell(v, "sees 3 2");
+        // of each NOTICE two figures: the MANNER by one who is not SURE, and by one who is
+        treated(v, 2, 3, "00020031");
+        treated(v, 3, 2, "01132303");
+        treated(v, 2, 3, "10010000");
+        treated(v, 2, 1, "01211220");
+        treated(v, 3, 1, "21131311");
+        treated(v, 2, 0, "31032201");
+        v.turn(2, 2);
+        v.turn(3, 3);
+        return v;
+    }
+
+    private static void treated(BackVillage v, int who, int whom, String manners) {
+        StringBuilder law = new StringBuilder();
+        for (int i = 0; i < manners.length(); i++) {
+            if (manners.charAt(i) != '0') {
+                law.append(law.length() == 0 ? "act " : ";act ").append(manners.charAt(i))
+                    .append(i % 2 == 0 ? " if not sure" : " if sure")
+                    .append(" and not(theirs<").append(i / 2).append(" or theirs>").append(i / 2).append(')');
+            }
+        }
+        Check.rule(v, law.toString());
+        v.treat(who, whom, false);
+    }
+
+    private static void muddyForty() {
+        C.due("39", slow(19).muddy(0), 39);
+        C.due("40 is the most", slow(19).muddy(1), 40);
+        C.due("40 is the most, as PERSON 0 is SURE later", slow(32).muddy(1), 40);
+        C.due("none, as it is 41", slow(32).muddy(0), -1);
+        BackVillage v = slow(119);
+        for (int left = 43; left > 0; left--) {
+            C.due("PERSON 0 is SURE behind " + left, v.muddy(0), left > 40 ? -1 : left);
+            C.due("PERSON 1 is SURE behind " + (left - 1), v.muddy(1), left > 41 ? -1 : left - 1);
+            C.due("not SURE yet: " + left, v.person(0, 3), 0);
+            v.day();
+        }
+        C.due("SURE behind 43", v.person(0, 3), 1);
+        C.due("0: now", v.muddy(0), 0);
     }
 
     // ---- backs, manners, queries
